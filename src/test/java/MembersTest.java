@@ -11,6 +11,7 @@ public final class MembersTest {
         dropGivesRoomAndForgets();
         ways();
         objectsAreApart();
+        longUse();
         CHECKS.finish();
     }
 
@@ -133,5 +134,20 @@ public final class MembersTest {
         CHECKS.due("inbred(4) beside another object", x.inbred(4), 16);
         CHECKS.due("inbred(1) of the other object", y.inbred(1), 2);
         CHECKS.due("members() of the first object", x.members(), 5);
+    }
+
+    /** 512 calls in all: as many as are promised. */
+    private static void longUse() {
+        GeneIdentity x = new GeneIdentity();
+        CHECKS.due("long use: founder()", x.founder(), 0);
+        for (int n = 0; n < 127; n++) {
+            CHECKS.due("long use: child(0, 0)", x.child(0, 0), 1);
+            CHECKS.due("long use: drop() of the child", x.drop(), 1);
+            CHECKS.due("long use: founder()", x.founder(), 1);
+            CHECKS.due("long use: drop() of the founder", x.drop(), 1);
+        }
+        CHECKS.due("long use: ways()", x.ways(), 1);
+        CHECKS.due("long use: child(0, 0) at the end", x.child(0, 0), 1);
+        CHECKS.due("long use: inbred(1)", x.inbred(1), 2);
     }
 }
