@@ -1,5 +1,6 @@
 import java.util.ArrayList;
 import java.util.List;
+import java.util.function.ToIntFunction;
 
 /** What the tests share: comparing answers, and reading every answer of an object at once. */
 final class Checks {
@@ -20,6 +21,37 @@ final class Checks {
             wrong++;
             System.out.println("does not hold: " + what);
         }
+    }
+
+    /** Runs the test of one sentence of the document, and names the sentence if it is broken. */
+    void sentence(String words, Runnable test) {
+        int madeBefore = made;
+        int wrongBefore = wrong;
+        try {
+            test.run();
+        } catch (RuntimeException thrown) {
+            wrong++;
+            System.out.println("a call threw " + thrown);
+        }
+        holds("the test of this sentence compares something", made > madeBefore);
+        if (wrong > wrongBefore) {
+            System.out.println("    broken: " + words);
+        }
+    }
+
+    /**
+     * A refused call answers its code and leaves the object as one that never got the call: it answers
+     * the same, and gives the last number away and out again.
+     */
+    void refused(String pedigree, String call, ToIntFunction<GeneIdentity> ask, int code) {
+        GeneIdentity x = Pedigrees.build(pedigree);
+        String who = "[" + pedigree + "] " + call;
+        due(who, ask.applyAsInt(x), code);
+        due(who + " again", ask.applyAsInt(x), code);
+        holds(who + " changes nothing", answers(x).equals(answers(Pedigrees.build(pedigree))));
+        int n = Pedigrees.size(pedigree);
+        due(who + ", then drop()", x.drop(), n == 0 ? GeneIdentity.NONE : n - 1);
+        due(who + ", then founder()", x.founder(), n == 0 ? 0 : n - 1);
     }
 
     /** Ends the test with exit code 1 if an answer was wrong, or if nothing was compared at all. */
@@ -53,12 +85,6 @@ final class Checks {
 
     /** Two founders 0 and 1, their children 2 and 3, and 4, a child of these. */
     static GeneIdentity siblingsChild() {
-        GeneIdentity x = new GeneIdentity();
-        x.founder();
-        x.founder();
-        x.child(0, 1);
-        x.child(0, 1);
-        x.child(2, 3);
-        return x;
+        return Pedigrees.build(Pedigrees.SIBLINGS_CHILD);
     }
 }
